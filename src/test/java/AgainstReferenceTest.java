@@ -3,6 +3,8 @@ public final class AgainstReferenceTest {
     private static final int RUNS = 60000;
     private static final String[] NAMES = {
         "b", "i", "u", "em", "s", "span", "div", "p", "ul", "li", "object", "br"};
+    /** The tags that the adoption works on, the most telling first. */
+    private static final String[] MISNESTERS = {"b", "i", "p", "b", "u", "div", "em", "span"};
     private static final String[] ATTRIBUTES = {
         "", "", "", "", " a", " a=\"x\"", " A=\"x\"", " a=\"y\" b", " a=x", " a b a=\"z\"", "/",
         " c=\"1<>&lt;\"", " class=\"some long value\"", " a= \"q\""};
@@ -20,7 +22,7 @@ public final class AgainstReferenceTest {
     }
 
     private String name(int liking) {
-        String name = NAMES[(liking == 0 ? next(12) : liking == 1 ? next(5) : next(3) * 4 % 12)];
+        String name = liking == 0 ? NAMES[next(NAMES.length)] : MISNESTERS[next(4 + liking * 2)];
         return next(20) == 0 ? name.toUpperCase(java.util.Locale.ROOT) : name;
     }
 
