@@ -6,7 +6,7 @@ public final class AgainstReferenceTest {
     /** The tags that the adoption works on, the most telling first. */
     private static final String[] MISNESTERS = {"b", "i", "p", "b", "u", "div", "em", "span"};
     private static final String[] ATTRIBUTES = {
-        "", "", "", "", " a", " a=\"x\"", " A=\"x\"", " a=\"y\" b", " a=x", " a b a=\"z\"", "/",
+        "", "", "", "", " a", " a=\"x\"", " A=\"x\"", " a=\"y\"", " a=\"y\" b", " a=x", " a b a=\"z\"", "/",
         " c=\"1<>&lt;\"", " class=\"some long value\"", " a= \"q\""};
     private static final String[] SCRAPS = {
         "x", "y ", "&lt;", "&amp;", "&", "&l", "<", "</", "</ ", "<!", "<!-", "<!-->", "-->", "<!--c-->",

@@ -87,6 +87,11 @@ public final class Promise03AdoptionTest {
         MarkupTreeBuilder x = Check.parsed("<b><i>" + "<div>".repeat(9) + "<u>x</b>");
         Check.due("list with the bookmark behind the clone", Check.list(x), "14 22 12");
         Check.due("stack with it", Check.stack(x), "0 14 3 4 5 6 7 8 9 10 22 11 12");
+        x = Check.parsed("<b><i>" + "<div>".repeat(9) + "<u><em>x</b>");
+        Check.due("list with more behind the bookmark", Check.list(x), "15 23 12 13");
+        Check.due("stack with them", Check.stack(x), "0 15 3 4 5 6 7 8 9 10 23 11 12 13");
+        x = Check.parsed("<i><b>" + "<div>".repeat(9) + "x</b>");
+        Check.due("list with the bookmark where the node was", Check.list(x), "1 20");
     }
 
     public static void main(String[] args) {

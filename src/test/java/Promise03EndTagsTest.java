@@ -29,6 +29,7 @@ public final class Promise03EndTagsTest {
         Check.leaves("<b></p>x", "<b><p></p>x</b>", "0 1", "1");
         Check.leaves("<p><object></p>x", "<p><object><p></p>x</object></p>", "0 1 2", "|");
         Check.leaves("<p><span><span>a</p>b", "<p><span><span>a</span></span></p>b", "0", "");
+        Check.leaves("<li><p>a</p>b", "<li><p>a</p>b</li>", "0 1", "");
         Check.leaves("</p a=\"1\">", "<p></p>", "0", "");
         Check.leaves("<p><b></p></p>x", "<p><b></b></p><p></p><b>x</b>", "0 4", "4");
     }
@@ -46,6 +47,7 @@ public final class Promise03EndTagsTest {
     private static void lineBreak() {
         Check.leaves("</br>x", "<br>x", "0", "");
         Check.leaves("a</BR b=\"1\">c", "a<br>c", "0", "");
+        Check.leaves("<span></br>x", "<span><br>x</span>", "0 1", "");
         Check.leaves("<p><b></p></br>", "<p><b></b></p><b><br></b>", "0 3", "3");
     }
 

@@ -54,6 +54,8 @@ public final class Promise03StartTagsTest {
         Check.leaves("<b><i><b><i><b><i>", "<b><i><b><i><b><i></i></b></i></b></i></b>", "0 1 2 3 4 5 6", "1 2 3 4 5 6");
         MarkupTreeBuilder x = Check.parsed("<b a><i><b a=\"1\"><b A><b a=\"\"><b a=\"2\"><b a b><b a=>");
         Check.due("list of alike attribute texts", Check.list(x), "2 3 4 5 6 7 8");
+        x = Check.parsed("<b a=\"1\"><b a=\"2\"><b a=\"3\"><b a=\"4\"><b c=\"1\">");
+        Check.due("list of attribute texts of one length", Check.list(x), "1 2 3 4 5");
         Check.leaves("<b><b><b><object><b><b><b>",
             "<b><b><b><object><b><b><b></b></b></b></object></b></b></b>", "0 1 2 3 4 5 6 7", "1 2 3 | 5 6 7");
         Check.due("list inside an object", Check.list(Check.parsed("<b><object><b><b><b><b>")), "1 | 4 5 6");

@@ -29,7 +29,7 @@ public final class Promise03TokenizerTest {
     }
 
     private static void lessThanAsText() {
-        String[] themselves = {"<", "<<", "< b>", "<1>", "</", "</>", "</ b>", "</1b>", "<!", "<!-", "<!b>", "<!-b-->", "<=b"};
+        String[] themselves = {"<", "<<", "< b>", "<1>", "</", "</>", "</ b>", "</1b>", "<@b>", "<[b>", "<`b>", "<{b>", "</@b>", "</{b>", "<!", "<!-", "<!b>", "<!-b-->", "<=b"};
         for (String markup : themselves) {
             Check.due("text of " + markup, Check.data(Check.parsed(markup), 1), markup);
         }
@@ -38,7 +38,8 @@ public final class Promise03TokenizerTest {
 
     private static void comments() {
         String[][] contents = {{"<!---->", ""}, {"<!--", ""}, {"<!--a", "a"}, {"<!-->", ">"}, {"<!--->", "->"},
-            {"<!--->x-->", "->x"}, {"<!----->", "-"}, {"<!--a--b-->", "a--b"}, {"<!--a-->", "a"}, {"<!--a--", "a--"},
+            {"<!--->x-->", "->x"}, {"<!----->", "-"}, {"<!--a--b-->", "a--b"}, {"<!--a-b>c-->", "a-b>c"}, {"<!--a->b-->", "a->b"},
+            {"<!--a--->", "a-"}, {"<!--a-- >b-->", "a-- >b"}, {"<!--a-->", "a"}, {"<!--a--", "a--"},
             {"<!--<b>&lt;-->", "<b>&lt;"}, {"<!--\n\t-->", "\n\t"}};
         for (String[] row : contents) {
             MarkupTreeBuilder x = Check.parsed(row[0]);
@@ -68,7 +69,7 @@ public final class Promise03TokenizerTest {
         }
         Check.prints("<OBJECT><Em><bR>", "<object><em><br></em></object>");
         String[] unknown = {"x", "bb", "bi", "e", "spa", "spans", "objects", "aobject", "objectobject", "aaobject",
-            "aaaaaaaaaaaaab", "aaaaaaaab", "root", "text", "comment"};
+            "aaaaaaaaaaaaab", "aaaaaaaab", "bZ", "Ab", "za", "root", "text", "comment"};
         for (String name : unknown) {
             Check.prints("x<" + name + " a=\"b\">y</" + name + ">z", "xyz");
         }
@@ -88,7 +89,8 @@ public final class Promise03TokenizerTest {
             {"<b a=\"1\" a=\"2\">", " a=\"1\""}, {"<b a A=\"2\" c>", " a=\"\" c=\"\""}, {"<b a=\"1\" A>", " a=\"1\""},
             {"<b z y x z=\"1\">", " z=\"\" y=\"\" x=\"\""}, {"<b1a=2>", " a=\"\""}, {"<b ab a abc>", " ab=\"\" a=\"\" abc=\"\""},
             {"<b a/c>", " a=\"\" c=\"\""}, {"<b =\"x\">", " x=\"\""}, {"<b a==\"x\">", " a=\"\" x=\"\""},
-            {"<b ab aB AB ac>", " ab=\"\" ac=\"\""}, {"<b ab ba>", " ab=\"\" ba=\"\""}, {"<b a='1'>", " a=\"\""}};
+            {"<b ab aB AB ac>", " ab=\"\" ac=\"\""}, {"<b ab ba>", " ab=\"\" ba=\"\""}, {"<b a='1'>", " a=\"\""},
+            {"<b A Z z a M>", " a=\"\" z=\"\" m=\"\""}, {"<b @[`{>", ""}, {"<b a@z[c`d{e>", " a=\"\" z=\"\" c=\"\" d=\"\" e=\"\""}};
         for (String[] row : texts) {
             MarkupTreeBuilder x = Check.parsed(row[0]);
             Check.due("kind for " + row[0], x.nodeKind(1), MarkupTreeBuilder.B);
@@ -113,6 +115,27 @@ public final class Promise03TokenizerTest {
         Check.prints(values, values + "</b>");
     }
 
+    private static void whereAFullInputEnds() {
+        String[] scraps = {"<", "</", "<!", "<!-", "&", "&l", "&lt", "&am", "&amp"};
+        for (String scrap : scraps) {
+            String markup = "x".repeat(256 - scrap.length()) + scrap;
+            Check.due("text of a full input with " + scrap, Check.data(Check.parsed(markup), 1), markup);
+        }
+        String[] comments = {"", "-", "--", "a", "a-"};
+        for (String content : comments) {
+            MarkupTreeBuilder x = Check.parsed("x".repeat(252 - content.length()) + "<!--" + content);
+            Check.due("comment at the end of a full input", Check.data(x, 2), content);
+        }
+        String[] dropped = {"<b", "</b", "<b ", "</b ", "<b a", "<b a=", "<b a=\"", "<b a=\"v", "<b a=\"v\"", "<bbbb", "</bbbb"};
+        for (String tag : dropped) {
+            String text = "x".repeat(256 - tag.length());
+            Check.leaves(text + tag, text, "0", "");
+        }
+        Check.leaves("<" + "b".repeat(255), "", "0", "");
+        Check.leaves("<b " + "a".repeat(253), "", "0", "");
+        Check.prints("x".repeat(253) + "<b>", "x".repeat(253) + "<b></b>");
+    }
+
     public static void main(String[] args) {
         answers();
         text();
@@ -122,6 +145,7 @@ public final class Promise03TokenizerTest {
         startTags();
         attributes();
         asManyAttributesAsTheInputHolds();
+        whereAFullInputEnds();
         Check.end();
     }
 }

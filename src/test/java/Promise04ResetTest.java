@@ -26,6 +26,20 @@ public final class Promise04ResetTest {
         }
     }
 
+    private static void nothingIsLeftOfEarlierInputs() {
+        String[] inputs = {MARKUP, "x".repeat(256), "<!--" + "y".repeat(252), "<b a=\"" + "v".repeat(248) + "\">",
+            "<br>".repeat(64), "<object>".repeat(32), "<b>" + "<div>".repeat(10) + "x</b>y", "<p>x", ""};
+        MarkupTreeBuilder x = Check.large();
+        for (int i = 0; i < 5 * inputs.length; i++) {
+            String markup = inputs[i * 2 % inputs.length];
+            MarkupTreeBuilder fresh = Check.feed(Check.large(), markup);
+            x.reset();
+            Check.feed(x, markup);
+            Check.due("parse() after reset", x.parse(), fresh.parse());
+            Check.due("the object, and a new one", Check.everything(x), Check.everything(fresh));
+        }
+    }
+
     private static void capacitiesAreKept() {
         MarkupTreeBuilder x = new MarkupTreeBuilder(20, 8, 17);
         for (int i = 0; i < 3; i++) {
@@ -51,6 +65,7 @@ public final class Promise04ResetTest {
         backToTheStart("DONE", Check.parsed(MARKUP));
         backToTheStart("FULL", Check.full("<b><i><u><div>x<br></b>", 8, 16));
         sameAnswersAgain();
+        nothingIsLeftOfEarlierInputs();
         capacitiesAreKept();
         Check.end();
     }
