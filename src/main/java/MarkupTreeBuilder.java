@@ -125,7 +125,7 @@ public final class MarkupTreeBuilder {
         if (state != NOT_PARSED || inputLength >= inputCap) {
             return false;
         }
-        if (ch != 9 && ch != 10 && (ch < 32 || ch > 126)) {
+        if (ch != '\t' && ch != '\n' && (ch < ' ' || ch > '~')) {
             return false;
         }
         input[inputLength] = (char) ch;
@@ -919,7 +919,7 @@ public final class MarkupTreeBuilder {
                 closeOther(kind);
                 return;
             }
-            int block = findBlock(formatting);
+            int block = closeOrFindBlock(formatting);
             if (block == NONE) {
                 return;
             }
@@ -945,7 +945,7 @@ public final class MarkupTreeBuilder {
     }
 
     // Steps A4 and A5: answers NONE where the adoption has ended with them.
-    private int findBlock(int formatting) {
+    private int closeOrFindBlock(int formatting) {
         int entry = listPosition(formatting);
         int position = stackPosition(formatting);
         if (position == NONE) {
