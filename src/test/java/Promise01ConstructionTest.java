@@ -19,27 +19,12 @@ public final class Promise01ConstructionTest {
         Check.due("nodeCount() with nodeCap " + argument, x.nodeCount(), capacity);
     }
 
-    /** A start tag whose attribute text has the length, in at most 256 characters of input. */
-    private static String tagWithText(int length) {
-        StringBuilder tag = new StringBuilder("<b");
-        int left = length;
-        for (char c = 'a'; c <= 'z' && left >= 20; c++) {
-            tag.append(' ').append(c);
-            left -= 5;
-        }
-        for (char c = 'a'; c <= 'z' && left >= 20; c++) {
-            tag.append(" a").append(c);
-            left -= 6;
-        }
-        return tag.append(' ').append("z".repeat(left - 4)).append('>').toString();
-    }
-
     private static void attrCap(int argument, int capacity) {
         MarkupTreeBuilder x = new MarkupTreeBuilder(256, 64, argument);
-        Check.feed(x, tagWithText(capacity));
+        Check.feed(x, Check.tagWithText("b", capacity));
         Check.due("parse() of " + capacity + " attribute text with attrCap " + argument, x.parse(), 1);
         Check.due("dataLength(1) with attrCap " + argument, x.dataLength(1), capacity);
-        x = Check.feed(new MarkupTreeBuilder(256, 64, argument), tagWithText(capacity + 1));
+        x = Check.feed(new MarkupTreeBuilder(256, 64, argument), Check.tagWithText("b", capacity + 1));
         Check.due("parse() of " + (capacity + 1) + " attribute text with attrCap " + argument, x.parse(), 2);
     }
 

@@ -4,8 +4,14 @@ import java.util.StringJoiner;
 final class Check {
     private static int asked = 0;
     private static int wrong = 0;
+    private static String sentence = "";
 
     private Check() {
+    }
+
+    /** Names the words of the document by which the answers asked from here on are due. */
+    static void sentence(String words) {
+        sentence = "'" + words + "': ";
     }
 
     static void due(String what, long got, long want) {
@@ -20,7 +26,7 @@ final class Check {
         asked++;
         if (!got.equals(want)) {
             wrong++;
-            System.out.println(what + " answered " + got + ", due is " + want);
+            System.out.println(sentence + what + " answered " + got + ", due is " + want);
         }
     }
 
@@ -53,6 +59,37 @@ final class Check {
         MarkupTreeBuilder x = feed(new MarkupTreeBuilder(256, nodeCap, attrCap), markup);
         due("parse() of " + markup, x.parse(), MarkupTreeBuilder.FULL);
         return x;
+    }
+
+    /** Parses with these capacities, is due to answer the status, and leaves this serialization, stack and list. */
+    static MarkupTreeBuilder ends(String markup, int nodeCap, int attrCap, int status,
+            String serialization, String stack, String list) {
+        MarkupTreeBuilder x = feed(new MarkupTreeBuilder(256, nodeCap, attrCap), markup);
+        String told = markup + " with " + nodeCap + " nodes and " + attrCap + " attribute text";
+        due("parse() of " + told, x.parse(), status);
+        due("status() after " + told, x.status(), status);
+        due("serialization of " + told, serial(x), serialization);
+        due("stack after " + told, stack(x), stack);
+        due("list after " + told, list(x), list);
+        return x;
+    }
+
+    /** A start tag whose attribute text has the length (4 or less: none), in at most 256 characters of input. */
+    static String tagWithText(String name, int length) {
+        StringBuilder tag = new StringBuilder("<").append(name);
+        int left = length;
+        for (char c = 'a'; c <= 'z' && left >= 20; c++) {
+            tag.append(' ').append(c);
+            left -= 5;
+        }
+        for (char c = 'a'; c <= 'z' && left >= 20; c++) {
+            tag.append(" a").append(c);
+            left -= 6;
+        }
+        if (left > 4) {
+            tag.append(' ').append("z".repeat(left - 4));
+        }
+        return tag.append('>').toString();
     }
 
     /** The markup, parsed, prints as the serialization. */
