@@ -129,6 +129,31 @@ public final class Boundary03AdoptionTest {
             "<u><b><b><b><b></b></b></b></b></u><b><b><b><p><u>x</u>y</p></b></b></b>", "0 10 9 8 6", "10 9 8");
     }
 
+    private static String numbers(int first, int last) {
+        StringBuilder out = new StringBuilder();
+        for (int n = first; n <= last; n++) {
+            out.append(n == first ? "" : " ").append(n);
+        }
+        return out.toString();
+    }
+
+    private static void entriesMoveDown() {
+        Check.sentence("remove it from the stack (the entries above move down by one)");
+        // Every node there can be is on the stack, and there is no room for a clone after the removal.
+        String markup = "<i>" + "<b>".repeat(60) + "<span><p></i>";
+        MarkupTreeBuilder x = Check.full(markup, 64, 256);
+        Check.due("stack after one of 64 entries left", Check.stack(x), numbers(0, 61) + " 63");
+        Check.due("list then", Check.list(x), "1 59 60 61");
+        // Where the entries were before they moved down, nothing is found any more.
+        markup = "<b>" + "<div>".repeat(7) + "<span><div><i></b>";
+        x = Check.parsed(markup);
+        Check.due("stack after eight rounds", Check.stack(x), "0 2 3 4 5 6 7 8 10 19 11");
+        Check.due("list then", Check.list(x), "19 11");
+        x = Check.parsed(markup + "</i>");
+        Check.due("stack after the end of the last one", Check.stack(x), "0 2 3 4 5 6 7 8 10 19");
+        Check.due("list then", Check.list(x), "19");
+    }
+
     private static void bookmark() {
         Check.sentence("Bookmark b = F's list position.");
         // In the eighth round N stays in the list, at the bookmark: blocks without anything between them.
@@ -181,6 +206,7 @@ public final class Boundary03AdoptionTest {
         a5();
         a7Counter();
         a7NotInTheList();
+        entriesMoveDown();
         bookmark();
         a8();
         Check.end();

@@ -101,7 +101,8 @@ public final class Boundary03CapacityTest {
         Check.sentence("INSERT: create a node (stops where it is)");
         ends("<b><b><b>" + breaks(3) + "<b>", DONE, "<b><b><b>" + breaks(3) + "<b></b></b></b></b>", "0 1 2 3 7", "2 3 7");
         ends("<b><b><b>" + breaks(4) + "<b>", FULL, "<b><b><b>" + breaks(4) + "</b></b></b>", "0 1 2 3", "1 2 3");
-        ends("<b><object>" + breaks(4) + "<object>", DONE, "<b><object>" + breaks(4) + "<object></object></object></b>", "0 1 2 7", "1 | |");
+        ends("<b><object>" + breaks(4) + "<object>", DONE,
+            "<b><object>" + breaks(4) + "<object></object></object></b>", "0 1 2 7", "1 | |");
         ends("<b><object>" + breaks(5) + "<object>", FULL, "<b><object>" + breaks(5) + "</object></b>", "0 1 2", "1 |");
         ends("<span>" + breaks(5) + "<br>", DONE, "<span>" + breaks(6) + "</span>", "0 1", "");
         ends("<span>" + breaks(6) + "<br>", FULL, "<span>" + breaks(6) + "</span>", "0 1", "");

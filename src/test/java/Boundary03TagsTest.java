@@ -129,7 +129,8 @@ public final class Boundary03TagsTest {
     }
 
     private static void objectEnd() {
-        Check.sentence("For OBJECT only, then remove entries from the end of the list until a MARKER has been removed or the list is empty.");
+        Check.sentence("For OBJECT only, then remove entries from the end of the list until a MARKER has been removed "
+            + "or the list is empty.");
         Check.leaves("<object></object>", "<object></object>", "0", "");
         Check.leaves("<object><b></object>", "<object><b></b></object>", "0", "");
         Check.leaves("<object><b><i><u></object>x", "<object><b><i><u></u></i></b></object>x", "0", "");
@@ -185,6 +186,25 @@ public final class Boundary03TagsTest {
         Check.due("length of the empty attribute text", Check.parsed("</br a=\"1\">").dataLength(1), 0);
     }
 
+    private static void onlyItsOwn() {
+        Check.sentence("POP UNTIL kind K: pop repeatedly, stopping right after a node of kind K has been popped.");
+        String[] outers = {"div", "ul", "li", "object", "span", "b", "s"};
+        String[] inners = {"div", "ul", "object", "p", "li", "span", "b", "i", "u", "em", "s"};
+        for (String outer : outers) {
+            for (String inner : inners) {
+                if (outer.equals("li") && inner.equals("li")) {
+                    continue;
+                }
+                String list = outer.equals("object") ? "|" : outer.equals("b") || outer.equals("s") ? "1" : "";
+                String markup = "<" + outer + "><" + inner + "></" + inner + ">";
+                Check.leaves(markup, markup + "</" + outer + ">", "0 1", list);
+            }
+            String list = outer.equals("object") ? "|" : outer.equals("b") || outer.equals("s") ? "1" : "";
+            Check.leaves("<" + outer + "></p>", "<" + outer + "><p></p></" + outer + ">", "0 1", list);
+            Check.leaves("<" + outer + "></br>", "<" + outer + "><br></" + outer + ">", "0 1", list);
+        }
+    }
+
     private static void otherEnd() {
         Check.sentence("At a node of kind K: implied end tags except K; pop until that very node has been popped; end.");
         Check.leaves("<span></span>", "<span></span>", "0", "");
@@ -222,6 +242,7 @@ public final class Boundary03TagsTest {
         paragraphEnd();
         listItemEnd();
         lineBreakEnd();
+        onlyItsOwn();
         otherEnd();
         Check.end();
     }
