@@ -133,11 +133,12 @@ public final class Boundary04ResetTest {
     /** Whatever the first parse left behind, the second one does not find it. */
     private static void oneAfterAnother() {
         Check.sentence("reset() always returns the object to the start state: empty input, tree = ROOT only, stack [0], empty list");
-        String[] inputs = {"", "x", "x".repeat(256), "<br>".repeat(64), "<br><br><br><br>", "x<b><br></b><br>", "<b>x<i>", "<br><br><b></b>y",
-            "<b><i><u><s>", "<br><br><br><b><p><b><b><b></p></b>", "<b><b><b><b></b></b></b></b>", "<object><object><b>",
-            "<b a=\"1\">1<p>2</b>3<object>4<i c>5<!--6", "<b a=\"2\"><b a=\"2\"><b a=\"2\"><b a=\"2\">", "<p><b><i><u></p>x<!--y-->z",
-            "<b><i><u><em><s><div>x</b>y", "<b>" + "<div>".repeat(9) + "x</b>y", "<ul><li>1<li>2</ul>3", "<b abcdefghijklm=\"" + "v".repeat(230) + "\">",
-            "<b" + " a".repeat(120) + ">", "<b a c d e f g h><i a c d e f g h>x</i>", "&lt;&amp;<!--z", "</p></p></br></zz>", "<b><p>1<p>2<p>3</b>4"};
+        String[] inputs = {"", "x", "x".repeat(256), "<br>".repeat(64), "<br><br><br><br>", "x<b><br></b><br>", "<b>x<i>",
+            "<br><br><b></b>y", "<b><i><u><s>", "<br><br><br><b><p><b><b><b></p></b>", "<b><b><b><b></b></b></b></b>",
+            "<object><object><b>", "<b a=\"1\">1<p>2</b>3<object>4<i c>5<!--6", "<b a=\"2\">".repeat(4),
+            "<p><b><i><u></p>x<!--y-->z", "<b><i><u><em><s><div>x</b>y", "<b>" + "<div>".repeat(9) + "x</b>y",
+            "<ul><li>1<li>2</ul>3", "<b abcdefghijklm=\"" + "v".repeat(230) + "\">", "<b" + " a".repeat(120) + ">",
+            "<b a c d e f g h><i a c d e f g h>x</i>", "&lt;&amp;<!--z", "</p></p></br></zz>", "<b><p>1<p>2<p>3</b>4"};
         MarkupTreeBuilder x = Check.large();
         for (String first : inputs) {
             for (String second : inputs) {
